@@ -14,6 +14,10 @@ final class Model {
         return text;
     }
 
+    String pattern() {
+        return pattern;
+    }
+
     int write(int letter, int n) {
         if (letter < 0 || letter > 3 || n < 1 || n > 40) {
             return BAD;
